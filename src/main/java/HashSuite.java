@@ -27,6 +27,7 @@ public final class HashSuite {
     private static final int HOMES = 32;
     private static final int HOME_MASK = 31;
     private static final int HOME_SHIFT = 27;
+    // Homes and spare slots of one table, and those of all tables.
     private static final int REGION = 64;
     private static final int SLOTS = 512;
 

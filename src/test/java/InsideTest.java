@@ -1,11 +1,12 @@
 import java.lang.reflect.Field;
+import java.util.Arrays;
 import java.util.Random;
 
 /**
- * agree and sound look at the tables themselves: a table that is spoilt from outside is noticed.
- * Through the public face they can't be seen to answer anything but true.
+ * What can't be seen through the public face: agree and sound look at the tables themselves, so
+ * that one that is spoilt from outside is noticed, and scatter does scatter all tables anew.
  */
-public final class SoundTest {
+public final class InsideTest {
     private static final int REGION = 64;
 
     public static void main(String[] args) throws Exception {
@@ -14,11 +15,20 @@ public final class SoundTest {
                 spoilValue(engine, seed);
                 spoilKey(engine, seed);
                 spoilMark(engine, seed);
+                doubleKey(engine, seed);
             }
+            scatterMoves(engine);
+        }
+        for (int engine : new int[] {0, 3, 4, 5, 6, 7}) {
+            leaveMark(engine);
         }
         for (int seed = 0; seed < 200; seed++) {
             spoilLink(5, seed);
             spoilLink(7, seed);
+            linkToHeld(5, seed);
+            linkToHeld(6, seed);
+            linkToFree(seed);
+            spoilBits(seed);
             spoilSize(seed);
         }
         Checks.end();
@@ -83,6 +93,71 @@ public final class SoundTest {
         HashSuite x = filled(seed);
         marks(x)[heldSlot(x, engine, seed)] = 0;
         isNoticed("a mark in table " + engine, x, engine);
+    }
+
+    private static void doubleKey(int engine, int seed) throws Exception {
+        HashSuite x = filled(seed);
+        x.put(1001, 3);
+        int slot = heldSlot(x, engine, seed);
+        int[] key = ints(x, "keyAt");
+        int[] value = ints(x, "valueAt");
+        int copied = key[slot] == 1000 ? 1001 : 1000;
+        key[slot] = copied;
+        value[slot] = 3;
+        isNoticed("a key twice in table " + engine, x, engine);
+    }
+
+    private static int freeSlot(HashSuite x, int engine) throws Exception {
+        byte[] mark = marks(x);
+        int[] link = ints(x, "linkAt");
+        int slot = engine * REGION;
+        while (mark[slot] != 0 || link[slot] != 0) {
+            slot++;
+        }
+        return slot;
+    }
+
+    private static void leaveMark(int engine) throws Exception {
+        HashSuite x = filled(1);
+        marks(x)[freeSlot(x, engine)] = 2;
+        Checks.due("a mark of a removed key in table " + engine + ": sound()", x.sound(), false);
+    }
+
+    private static void linkToHeld(int engine, int seed) throws Exception {
+        HashSuite x = filled(seed);
+        ints(x, "linkAt")[freeSlot(x, engine)] = heldSlot(x, engine, seed);
+        Checks.due("a link too many in table " + engine + ": sound()", x.sound(), false);
+    }
+
+    private static void linkToFree(int seed) throws Exception {
+        HashSuite x = filled(seed);
+        int[] link = ints(x, "linkAt");
+        int slot = heldSlot(x, 6, seed);
+        while (link[slot] != 0) {
+            slot = link[slot];
+        }
+        link[slot] = freeSlot(x, 6);
+        Checks.due("a link to a free slot in table 6: sound()", x.sound(), false);
+    }
+
+    private static void spoilBits(int seed) throws Exception {
+        HashSuite x = filled(seed);
+        int[] link = ints(x, "linkAt");
+        int slot = 7 * REGION + seed % 32;
+        link[slot] |= 1 << 31;
+        Checks.due("a bit too many in table 7: sound()", x.sound(), false);
+    }
+
+    private static void scatterMoves(int engine) throws Exception {
+        HashSuite x = filled(1);
+        int[] before = ints(x, "keyAt").clone();
+        int[] linkBefore = ints(x, "linkAt").clone();
+        x.scatter(123456789);
+        int from = engine * REGION;
+        boolean same = Arrays.equals(before, from, from + REGION, ints(x, "keyAt"), from, from + REGION)
+                && Arrays.equals(linkBefore, from, from + REGION, ints(x, "linkAt"), from, from + REGION);
+        Checks.due("8 scatter leaves table " + engine + " as it was", same, false);
+        Checks.due("8 scatter: sound()", x.sound(), true);
     }
 
     private static void spoilLink(int engine, int seed) throws Exception {
