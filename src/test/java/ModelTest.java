@@ -1,4 +1,3 @@
-import java.lang.reflect.Method;
 import java.util.Random;
 import java.util.TreeMap;
 
@@ -41,32 +40,14 @@ public final class ModelTest {
             pool[i] = step != 0 ? from + i * step : random.nextInt();
         }
         if (kind == 5) {
-            fillWithOneHome(pool, random.nextInt(), false);
+            Homes.fillWithOneHome(pool, random.nextInt());
         } else if (kind == 6) {
-            fillWithOneHome(pool, random.nextInt(), true);
+            Homes.fillWithBothHomes(pool, random.nextInt());
         }
         pool[0] = Integer.MIN_VALUE;
         pool[1] = Integer.MAX_VALUE;
         pool[2] = 0;
         return pool;
-    }
-
-    /** Keys that a new object scatters to one home, or also to one other home: the worst case. */
-    private static void fillWithOneHome(int[] pool, int from, boolean both) throws Exception {
-        Method home = HashSuite.class.getDeclaredMethod("home", int.class);
-        Method otherHome = HashSuite.class.getDeclaredMethod("otherHome", int.class);
-        home.setAccessible(true);
-        otherHome.setAccessible(true);
-        HashSuite fresh = new HashSuite();
-        int first = (int) home.invoke(fresh, from);
-        int second = (int) otherHome.invoke(fresh, from);
-        int key = from;
-        for (int i = 0; i < pool.length; key++) {
-            if ((int) home.invoke(fresh, key) == first
-                    && (!both || (int) otherHome.invoke(fresh, key) == second)) {
-                pool[i++] = key;
-            }
-        }
     }
 
     private int key() {
