@@ -25,7 +25,9 @@ public final class BoundaryTest {
 
     public static void main(String[] args) {
         everyPromise();
-        scatterMakesNoDifference();
+        if (Checks.allRight()) {
+            scatterMakesNoDifference();
+        }
         Checks.end();
     }
 

@@ -13,6 +13,8 @@ import java.util.function.ToLongFunction;
  */
 final class Run {
     static final int CALLS = 512;
+    // Not an int, so that no call is due to answer it.
+    private static final long NO_ANSWER = Long.MIN_VALUE;
 
     private final String name;
     private final List<ToLongFunction<HashSuite>> calls = new ArrayList<>();
@@ -25,8 +27,8 @@ final class Run {
     private Run again() {
         Run run = new Run(name);
         for (ToLongFunction<HashSuite> call : calls) {
-            call.applyAsLong(run.x);
             run.calls.add(call);
+            run.answer("a call made again", call);
         }
         return run;
     }
@@ -36,8 +38,18 @@ final class Run {
         if (calls.size() > CALLS) {
             throw new IllegalStateException(name + ": the test itself makes too many calls");
         }
-        Checks.due(name + ": " + text, call.applyAsLong(x), due);
+        long got = answer(text, call);
+        Checks.due(name + ": " + text, got, due);
         return this;
+    }
+
+    private long answer(String text, ToLongFunction<HashSuite> call) {
+        try {
+            return call.applyAsLong(x);
+        } catch (RuntimeException e) {
+            Checks.threw(name + ": " + text, e);
+            return NO_ANSWER;
+        }
     }
 
     private static long number(boolean answer) {
