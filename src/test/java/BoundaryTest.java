@@ -4,8 +4,8 @@ import java.util.TreeMap;
 
 /**
  * A test for each sentence of the document that names a boundary case: each run bears the number
- * of its promise and the words that it tests. A refused call is always followed by holds(), which
- * sees that nothing changed. Nothing here looks inside the class.
+ * of its promise and the words that it tests. Each sentence that refuses a call has a run that ends
+ * with holds(), which sees that nothing changed. Nothing here looks inside the class.
  */
 public final class BoundaryTest {
     private static final int MIN = Integer.MIN_VALUE;
