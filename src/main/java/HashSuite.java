@@ -526,16 +526,22 @@ public final class HashSuite {
     // ---- CHAINED: the homes only start lists, whose keys all stand in the spare slots ----
     // ---- COALESCED: lists through the homes themselves, which may grow together ----
 
+    // Looked at before it is followed: a number that is no slot ends a list like no link at all.
+    private int nextOf(int slot) {
+        int next = linkAt[slot];
+        return next > NO_LINK && next < SLOTS ? next : NO_LINK;
+    }
+
     private int findLinked(int engine, int key) {
         int slot = engine * REGION + home(key);
         for (int step = 0; step <= HOMES; step++) {
             if (holds(slot, key)) {
                 return slot;
             }
-            if (linkAt[slot] == NO_LINK) {
+            slot = nextOf(slot);
+            if (slot == NO_LINK) {
                 return NONE;
             }
-            slot = linkAt[slot];
         }
         return NONE;
     }
@@ -543,11 +549,10 @@ public final class HashSuite {
     // The slot that links to this one, or the list's last one if none does.
     private int linkingTo(int engine, int slot) {
         int before = engine * REGION + home(keyAt[slot]);
-        for (int step = 0; step <= HOMES && linkAt[before] != slot; step++) {
-            if (linkAt[before] == NO_LINK) {
-                return before;
-            }
-            before = linkAt[before];
+        int next = nextOf(before);
+        for (int step = 0; step < HOMES && next != slot && next != NO_LINK; step++) {
+            before = next;
+            next = nextOf(before);
         }
         return before;
     }
@@ -570,8 +575,10 @@ public final class HashSuite {
         int slot = COALESCED * REGION + home(key);
         if (markAt[slot] == HELD) {
             int last = slot;
-            for (int step = 0; step < HOMES && linkAt[last] != NO_LINK; step++) {
-                last = linkAt[last];
+            int next = nextOf(last);
+            for (int step = 0; step < HOMES && next != NO_LINK; step++) {
+                last = next;
+                next = nextOf(last);
             }
             slot = COALESCED * REGION + HOMES - 1;
             for (int step = 1; step < HOMES && markAt[slot] == HELD; step++) {
@@ -589,10 +596,10 @@ public final class HashSuite {
         if (linkAt[before] == slot) {
             linkAt[before] = NO_LINK;
         }
-        int behind = linkAt[slot];
+        int behind = nextOf(slot);
         release(slot);
         for (int step = 0; step < HOMES && behind != NO_LINK; step++) {
-            int next = linkAt[behind];
+            int next = nextOf(behind);
             release(behind);
             insertCoalesced(keyAt[behind], valueAt[behind]);
             behind = next;
@@ -718,7 +725,10 @@ public final class HashSuite {
     private boolean areListsSound() {
         int base = COALESCED * REGION;
         for (int slot = base; slot < base + REGION; slot++) {
-            int next = linkAt[slot];
+            int next = nextOf(slot);
+            if (linkAt[slot] != next) {
+                return false;
+            }
             if (next != NO_LINK && (markAt[slot] != HELD || markAt[next] != HELD)) {
                 return false;
             }

@@ -4,7 +4,8 @@ import java.util.Random;
 
 /**
  * What can't be seen through the public face: agree and sound look at the tables themselves, so
- * that one that is spoilt from outside is noticed, and scatter does scatter all tables anew.
+ * that one that is spoilt from outside is noticed; scatter does scatter all tables anew; and no call
+ * throws or fails to end, whatever the tables hold.
  */
 public final class InsideTest {
     private static final int REGION = 64;
@@ -28,8 +29,13 @@ public final class InsideTest {
             linkToHeld(5, seed);
             linkToHeld(6, seed);
             linkToFree(seed);
+            linkToNowhere(5, seed);
+            linkToNowhere(6, seed);
             spoilBits(seed);
             spoilSize(seed);
+        }
+        for (int seed = 0; seed < 20000; seed++) {
+            anyStateAnswers(seed);
         }
         Checks.end();
     }
@@ -140,6 +146,24 @@ public final class InsideTest {
         Checks.due("a link to a free slot in table 6: sound()", x.sound(), false);
     }
 
+    private static void linkToNowhere(int engine, int seed) throws Exception {
+        for (int nowhere : new int[] {-1, 512, 513, Integer.MIN_VALUE, Integer.MAX_VALUE}) {
+            HashSuite x = filled(seed);
+            int[] link = ints(x, "linkAt");
+            int slot = heldSlot(x, engine, seed);
+            while (link[slot] != 0) {
+                slot = link[slot];
+            }
+            link[slot] = nowhere;
+            String what = "the link " + nowhere + " in table " + engine;
+            Checks.due(what + ": sound()", x.sound(), false);
+            for (int key = 0; key < 90; key++) {
+                String call = what + ": has(" + engine + ", " + key + ")";
+                Checks.due(call, x.has(engine, key), x.has(0, key));
+            }
+        }
+    }
+
     private static void spoilBits(int seed) throws Exception {
         HashSuite x = filled(seed);
         int[] link = ints(x, "linkAt");
@@ -175,5 +199,51 @@ public final class InsideTest {
         HashSuite x = filled(seed);
         field("held").setInt(x, x.size() + 1);
         Checks.due("the size: sound()", x.sound(), false);
+    }
+
+    /** Rule 7: no call may ever throw or fail to end, for any arguments in any state. */
+    private static void anyStateAnswers(int seed) throws Exception {
+        Random random = new Random(seed);
+        HashSuite x = new HashSuite();
+        // Few keys and links that often lead somewhere, so that the calls get deep into the tables.
+        int keys = 1 + random.nextInt(100);
+        int nowhere = random.nextInt(10);
+        for (int slot = 0; slot < 8 * REGION; slot++) {
+            ints(x, "keyAt")[slot] = random.nextInt(keys);
+            marks(x)[slot] = (byte) (random.nextInt(50) == 0 ? random.nextInt() : random.nextInt(3));
+            ints(x, "linkAt")[slot] =
+                    random.nextInt(10) < nowhere ? random.nextInt() : random.nextInt(8 * REGION);
+        }
+        field("held").setInt(x, random.nextInt(4) == 0 ? random.nextInt() : random.nextInt(25));
+        field("way").setInt(x, random.nextInt());
+        for (int call = 0; call < 40; call++) {
+            int one = random.nextInt(10) == 0 ? random.nextInt() : random.nextInt(keys);
+            int two = random.nextInt(10) == 0 ? random.nextInt() : random.nextInt(keys);
+            try {
+                ask(x, random.nextInt(15), one, two);
+            } catch (RuntimeException e) {
+                Checks.threw("rule 7, any state: " + one + ", " + two, e);
+            }
+        }
+    }
+
+    private static void ask(HashSuite x, int what, int one, int two) {
+        switch (what) {
+            case 0 -> x.put(one, two);
+            case 1 -> x.remove(one);
+            case 2 -> x.add(one, two);
+            case 3 -> x.move(one, two);
+            case 4 -> x.sift(one & 15, two & 7);
+            case 5 -> x.clear();
+            case 6 -> x.scatter(one);
+            case 7 -> x.size();
+            case 8 -> x.has(one & 7, two);
+            case 9 -> x.get(one & 7, two);
+            case 10 -> x.count(one, two);
+            case 11 -> x.sum(one);
+            case 12 -> x.least();
+            case 13 -> x.agree(one & 7, two & 7);
+            default -> x.sound();
+        }
     }
 }
